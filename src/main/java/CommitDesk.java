@@ -667,8 +667,8 @@ public final class CommitDesk {
             for (int fitting = 0; fitting < to.size; fitting++) {
                 int held = heldBehind(station, fitting);
                 if (held != NONE) {
-                    to.layer.offer(fitting * JOINT_HELD + held, cost + costOfSteps(station, fitting),
-                            way + to.codes[fitting]);
+                    long costNow = cost + costOfSteps(station, fitting);
+                    to.layer.offer(fitting * JOINT_HELD + held, costNow, way + to.codes[fitting]);
                 }
             }
         }
@@ -792,13 +792,19 @@ public final class CommitDesk {
 
         private void goOneHour(Unit unit, int price) {
             for (int state = 0; state < STATES; state++) {
-                for (int choice = 0; choice < CHOICES && from.isReached(state); choice++) {
-                    int next = unit.nextState(state, choice);
-                    if (next != NONE) {
-                        long gain = (long) price * unit.outputOf(choice);
-                        long cost = from.costs[state] + unit.costOfStep(state, choice) - gain;
-                        to.offer(next, cost, from.ways[state] * CHOICES + choice);
-                    }
+                if (from.isReached(state)) {
+                    goOnFrom(unit, price, state);
+                }
+            }
+        }
+
+        private void goOnFrom(Unit unit, int price, int state) {
+            for (int choice = 0; choice < CHOICES; choice++) {
+                int next = unit.nextState(state, choice);
+                if (next != NONE) {
+                    long gain = (long) price * unit.outputOf(choice);
+                    long cost = from.costs[state] + unit.costOfStep(state, choice) - gain;
+                    to.offer(next, cost, from.ways[state] * CHOICES + choice);
                 }
             }
         }
