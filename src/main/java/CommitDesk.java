@@ -309,11 +309,11 @@ public final class CommitDesk {
         }
 
         boolean canGive(int output) {
-            return within(output, low, high);
+            return low <= output && output <= high;
         }
 
         boolean canChoose(int choice) {
-            return choice == 0 || canGive(low + choice - 1);
+            return choice == 0 || low + choice - 1 <= high;
         }
 
         int outputOf(int choice) {
@@ -530,26 +530,21 @@ public final class CommitDesk {
         }
 
         void offer(int place, long cost, long way) {
-            if (!isReached(place) || isAhead(cost, way, place)) {
+            if (ways[place] == NONE || cost < costs[place]
+                    || cost == costs[place] && way < ways[place]) {
                 costs[place] = cost;
                 ways[place] = way;
             }
         }
 
-        /** The place with the best way of all, NONE if no place is reached. */
-        int bestPlace() {
-            int best = NONE;
-            for (int place = 0; place < ways.length; place++) {
-                if (isReached(place) && (best == NONE
-                        || isAhead(costs[place], ways[place], best))) {
-                    best = place;
+        /** Place 0 has the best of all the other's ways; it is not reached if there is none. */
+        void gather(Layer other) {
+            clear();
+            for (int place = 0; place < other.ways.length; place++) {
+                if (other.isReached(place)) {
+                    offer(0, other.costs[place], other.ways[place]);
                 }
             }
-            return best;
-        }
-
-        private boolean isAhead(long cost, long way, int place) {
-            return cost < costs[place] || cost == costs[place] && way < ways[place];
         }
     }
 
@@ -633,12 +628,13 @@ public final class CommitDesk {
                 from = to;
                 to = passed;
             }
-            int place = from.layer.bestPlace();
-            if (place == NONE) {
+            Layer end = to.layer;
+            end.gather(from.layer);
+            if (!end.isReached(0)) {
                 return NONE;
             }
-            write(station, from.layer.ways[place], table);
-            return (int) from.layer.costs[place];
+            write(station, end.ways[0], table);
+            return (int) end.costs[0];
         }
 
         private void goOneHour(Station station) {
@@ -783,11 +779,10 @@ public final class CommitDesk {
                 from = to;
                 to = passed;
             }
-            int place = from.bestPlace();
-            if (place != NONE) {
-                loneCosts[set] = from.costs[place];
-                writeLone(unit, set, hours, from.ways[place]);
-            }
+            // There is always a way: a set may stay as it was before.
+            to.gather(from);
+            loneCosts[set] = to.costs[0];
+            writeLone(unit, set, hours, to.ways[0]);
         }
 
         private void goOneHour(Unit unit, int price) {

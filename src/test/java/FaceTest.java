@@ -141,6 +141,7 @@ public final class FaceTest {
             desk.keep(i % 4);
         }
         long[] later = count(desk);
+        System.out.println(later[0] + " objects, " + later[1] + " elements a desk");
         check("room " + Arrays.toString(later),
                 later[0] <= MOST_OBJECTS && later[1] <= MOST_ELEMENTS);
         check("calls keep nothing new", Arrays.equals(atFirst, later));
