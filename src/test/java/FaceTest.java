@@ -133,7 +133,7 @@ public final class FaceTest {
         for (int set = 0; set < 3; set++) {
             desk.unit(1, 4, 2, 2, 2);
         }
-        for (int i = 0; i < 200; i++) {
+        for (int i = 0; i < 100; i++) {
             desk.demand(i % 8, i % 13, 0);
             desk.plan();
             desk.redispatch();

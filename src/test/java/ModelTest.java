@@ -9,8 +9,9 @@ import java.util.Random;
  * alone: rules looked up in a set's whole history, least costs by going through what is left.
  */
 public final class ModelTest {
-    private static final int RUNS = 200;
-    private static final int CALLS = 500;
+    private static final int RUNS = 1000;
+    /** So many answers are looked at that, with one more drawn call, an object's 512 are kept to. */
+    private static final int MOST_ANSWERS = 440;
 
     private static final long NO_WAY = Long.MAX_VALUE;
     private static final long ARGUMENT = Long.MIN_VALUE + 1;
@@ -466,6 +467,7 @@ public final class ModelTest {
         final Model model;
         final int dear;
         int calls = 0;
+        int answers = 0;
 
         Run(int seed) {
             this.seed = seed;
@@ -478,6 +480,7 @@ public final class ModelTest {
         }
 
         void same(String call, long got, long want) {
+            answers++;
             if (got != want) {
                 wrong++;
                 System.out.println("seed " + seed + ", call " + calls + ": " + call
@@ -490,8 +493,12 @@ public final class ModelTest {
             int units = random.nextInt(4);
             for (int i = 0; i < units; i++) {
                 callUnit(near + random.nextInt(3));
+                callCosts();
+                callStarts();
+                callBefore();
             }
-            for (calls = 0; calls < CALLS && wrong < 20; calls++) {
+            demandAsWalked();
+            for (calls = 0; answers < MOST_ANSWERS && wrong < 20; calls++) {
                 oneCall(near);
             }
             sameTables();
