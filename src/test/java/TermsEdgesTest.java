@@ -109,6 +109,8 @@ public final class TermsEdgesTest {
         Sentences.sentence("STEP is 64 .. behind each change", TermsEdgesTest::stepAfresh);
         Sentences.sentence("the BEST bound the present one, behind each change",
                 TermsEdgesTest::bestAfresh);
+        Sentences.sentence("behind each change .. by a call: also by one that tells what was",
+                TermsEdgesTest::stepAfreshByTheSame);
         Sentences.sentence("behind each change of sets, hours or prices: of nothing else",
                 TermsEdgesTest::stepStays);
         Sentences.sentence("where the outputs .. together are less than the demand, the price"
@@ -709,6 +711,16 @@ public final class TermsEdgesTest {
         improved().due(true, "demand", 1, 9, 0).due(64, "count", 2);
         improved().due(true, "demand", 1, 10, 1).due(64, "count", 2);
         improved().due(1, "unit", 1, 1, 1, 1, 1).due(64, "count", 2);
+    }
+
+    /** So it is said of price alone; README.md tells that it is read so of all the others, too. */
+    private static void stepAfreshByTheSame() {
+        improved().due(true, "costs", 0, 1000, 0, 0, 0).due(64, "count", 2);
+        improved().due(true, "starts", 0, 0, 0, 500).due(64, "count", 2);
+        improved().due(true, "before", 0, 0, 3).due(64, "count", 2);
+        improved().due(true, "demand", 1, 10, 0).due(64, "count", 2);
+        Desk desk = improved();
+        desk.due(true, "price", 1, desk.number("priceOf", 1)).due(64, "count", 2);
     }
 
     /** A round that helps nothing answers the BEST that the change left. */
